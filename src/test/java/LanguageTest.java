@@ -6,6 +6,8 @@ import java.lang.reflect.Method;
 import java.lang.reflect.Modifier;
 import java.nio.file.Files;
 import java.nio.file.Path;
+import java.util.ArrayList;
+import java.util.List;
 import java.util.Set;
 import java.util.TreeSet;
 import java.util.regex.Matcher;
@@ -20,9 +22,11 @@ public final class LanguageTest {
         "pair(int,int,int)", "partner(int)", "held(int,int)", "holder(int,int,int,int)", "holds(int,int)",
         "between(int,int,int)", "wide(int,int)", "digit(int,int)", "put(int,int)", "take(int,int)", "sheet(int,int,int)",
         "lay(int,int,long)", "scan(int,int,int,int)", "count(int)");
-    private static final Set<String> NAMED = Set.of("Math.max", "Math.min", "Turn.lengthOfRing");
-    private static final String FORBIDDEN = "throw|throws|try|catch|synchronized|assert|import|package|instanceof|native"
-        + "|protected|volatile|var|->|::|\"";
+    private static final Set<String> IMPORTED = Set.of("java.util.ArrayList", "java.util.List", "java.util.Arrays",
+        "java.util.Iterator");
+    private static final Pattern LIBRARY = Pattern.compile("(Math|Integer|Long)\\.\\w+(?<!Exact)|List\\.of|System\\.arraycopy"
+        + "|Arrays\\.(copyOf|copyOfRange|fill)");
+    private static final String FORBIDDEN = "\\b(throw|throws|try|catch|synchronized|assert|package|native|volatile)\\b|->|::";
 
     public static void main(String[] args) throws IOException {
         face();
@@ -60,7 +64,6 @@ public final class LanguageTest {
             if (!Modifier.isPrivate(field.getModifiers())) {
                 constants.add(field.getName());
             }
-            DUE.holds(field + " static is final", !Modifier.isStatic(field.getModifiers()) || Modifier.isFinal(field.getModifiers()));
         }
         DUE.holds("constants: " + constants, constants.equals(Set.of("BAD", "STATE", "FULL", "NONE")));
         DUE.is("BAD", MetAngles.BAD, -1);
@@ -74,38 +77,64 @@ public final class LanguageTest {
         for (String method : FACE) {
             open.add(method.substring(0, method.indexOf('(')));
         }
-        for (Class<?> type : MetAngles.class.getDeclaredClasses()) {
+        for (Class<?> type : allClasses()) {
             for (Method method : type.getDeclaredMethods()) {
-                DUE.holds(method + " has a name of its own", !open.contains(method.getName()));
+                if (Modifier.isPrivate(method.getModifiers())) {
+                    DUE.holds(method + " has a name of its own", !open.contains(method.getName()));
+                }
+                DUE.holds(method + " has few parameters", method.getParameterCount() <= 7);
             }
-        }
-        for (Method method : MetAngles.class.getDeclaredMethods()) {
-            if (Modifier.isPrivate(method.getModifiers())) {
-                DUE.holds(method + " has a name of its own", !open.contains(method.getName()));
-            }
-            DUE.holds(method + " has few parameters", method.getParameterCount() <= 7);
         }
     }
 
+    private static List<Class<?>> allClasses() {
+        List<Class<?>> all = new ArrayList<>(List.of(MetAngles.class.getDeclaredClasses()));
+        all.add(MetAngles.class);
+        return all;
+    }
+
     private static void classesInside() {
-        Class<?>[] inside = MetAngles.class.getDeclaredClasses();
-        DUE.holds("few classes", inside.length <= 12);
-        for (Class<?> type : inside) {
+        DUE.holds("few classes", allClasses().size() <= 12);
+        for (Class<?> type : MetAngles.class.getDeclaredClasses()) {
             DUE.holds(type + " is static", Modifier.isStatic(type.getModifiers()));
-            DUE.holds(type + " is not open", !Modifier.isPublic(type.getModifiers()));
-            DUE.holds(type + " has few fields", type.getDeclaredFields().length <= 20);
+            DUE.holds(type + " is not open", !Modifier.isPublic(type.getModifiers()) && !Modifier.isProtected(type.getModifiers()));
+        }
+        for (Class<?> type : allClasses()) {
+            int fields = 0;
+            for (Field field : type.getDeclaredFields()) {
+                boolean isStatic = Modifier.isStatic(field.getModifiers());
+                fields += isStatic ? 0 : 1;
+                DUE.holds(field + " static is final", !isStatic || Modifier.isFinal(field.getModifiers()));
+            }
+            DUE.holds(type + " has few fields", fields <= 20);
         }
     }
 
     private static void sourceText() throws IOException {
         String source = Files.readString(SOURCE);
-        String code = source.replaceAll("(?s)/\\*.*?\\*/", "").replaceAll("//[^\n]*", "");
-        Matcher word = Pattern.compile("(?<![\\w])(" + FORBIDDEN + ")(?![\\w])").matcher(code);
+        String code = source.replaceAll("(?s)/\\*.*?\\*/", "").replaceAll("//[^\n]*", "")
+            .replaceAll("\"[^\"\n]*\"", "").replaceAll("\\b(case [^>;]*|default )->", "");
+        wordsOf(code);
+        lengthsOf(code);
+    }
+
+    private static void wordsOf(String code) {
+        Matcher word = Pattern.compile(FORBIDDEN).matcher(code);
         DUE.holds("no forbidden word" + (word.find() ? ": " + word.group() : ""), word.reset().results().count() == 0);
-        Matcher named = Pattern.compile("\\b[A-Z][a-z]\\w*\\.\\w+").matcher(code);
-        while (named.find()) {
-            DUE.holds(named.group() + " is in the rules", NAMED.contains(named.group()));
+        Matcher imports = Pattern.compile("(?m)^\\s*import\\s+([^;]+);").matcher(code);
+        DUE.holds("imports are in the rules", imports.results().allMatch(found -> IMPORTED.contains(found.group(1))));
+        Set<String> own = new TreeSet<>();
+        for (Class<?> type : allClasses()) {
+            own.add(type.getSimpleName());
         }
+        Matcher named = Pattern.compile("(?<![\\w.])([A-Z][a-z]\\w*)\\.\\w+").matcher(code.replaceAll("(?m)^\\s*import[^;]*;", ""));
+        while (named.find()) {
+            DUE.holds(named.group() + " is in the rules",
+                own.contains(named.group(1)) || LIBRARY.matcher(named.group()).matches());
+        }
+    }
+
+    private static void lengthsOf(String code) {
         int line = 0;
         int start = 0;
         for (String text : code.split("\n", -1)) {
@@ -119,7 +148,7 @@ public final class LanguageTest {
         }
     }
 
-    /** One run has some 7.3 million fields and elements: 4 bytes at least each, and this run's dearest calls stay far below. */
+    /** One run of 512 calls has some 7.3 million fields and elements, and most take four bytes at least. */
     private static void room() {
         long before = allocated();
         MetAngles x = new MetAngles();
@@ -127,18 +156,20 @@ public final class LanguageTest {
         for (int i = 0; i < 32; i++) {
             x.lay(0, i, i % 2 == 0 ? i : i == 31 ? 0 : 509);
         }
-        for (int call = 0; call < 400; call++) {
+        for (int call = 0; call < 128; call++) {
             x.scan(0, 1, 0, 16);
         }
         x.scan(0, 1, 0, 2);
-        for (int call = 0; call < 70; call++) {
+        for (int call = 0; call < 50; call++) {
             x.partner(0);
             x.held(0, 8);
             x.meet(0, 1, 0);
             x.address(1, 300);
+            x.wide(0, 20);
+            x.all(20);
             x.sheet(1, 1, 60);
         }
-        DUE.holds("little room is taken", allocated() - before < 2_000_000);
+        DUE.holds("little room is taken", allocated() - before < 4 * 7_300_000);
     }
 
     private static long allocated() {

@@ -196,10 +196,14 @@ public final class PromisesTest {
         is("address of 1/509", x.address(10, 0), 1);
         is("address of no ANGLE", x.address(11, 0), BAD);
         is("address of no ANGLE", x.address(-1, 0), BAD);
+        MetAngles y = with(1, 509);
         int last = 0;
-        for (int i = 0; i < 508 && x.address(10, i) != NONE; i++) {
-            last = x.address(10, i);
+        int next = y.address(0, 0);
+        for (int i = 1; i < 500 && next != NONE; i++) {
+            last = next;
+            next = y.address(0, i);
         }
+        is("the address of 1/509 ends", next, NONE);
         is("the address of 1/509 ends with its LENGTH", last, 508);
     }
 
