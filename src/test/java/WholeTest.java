@@ -8,7 +8,9 @@ public final class WholeTest {
             holdersAsDue(pair);
             wideAsDue(pair);
             putAndTaken(pair);
+            takenFromOthers(pair);
         }
+        putIntoTen();
         pairsInPairs();
         for (int low = 1; low <= 511; low++) {
             anglesAsDue(low);
@@ -74,15 +76,50 @@ public final class WholeTest {
     private static void putAndTaken(Model.Pair pair) {
         for (int n = 1; n <= 9 && n * pair.length() <= 20 && pair.length() > 1; n++) {
             for (long up : Model.comeBack(n)) {
-                putAndTaken(pair, up, n);
+                putAndTaken(pair, up, full(n), n);
             }
         }
     }
 
-    private static void putAndTaken(Model.Pair pair, long up, int n) {
+    /** Of LENGTH 10, the greatest into which a PAIR can be PUT, only these lower parts can be made. */
+    private static void putIntoTen() {
+        Model.Pair pair = Model.PAIRS.get(1);
+        for (int low : new int[] {11, 33, 93, 341}) {
+            for (int up = 1; up < low; up++) {
+                MetAngles x = new MetAngles();
+                x.angle(up, low);
+                if (x.told(0, 3) == 10) {
+                    putAndTaken(pair, up, low, 10);
+                }
+            }
+        }
+    }
+
+    /** Nearly all have none: it is as due, that these are refused. */
+    private static void takenFromOthers(Model.Pair pair) {
+        if (pair.length() == 1) {
+            return;
+        }
+        for (int low = 3 + 2 * (pair.index() % 6); low <= 511; low += 12) {
+            MetAngles x = withEnds(pair);
+            Model model = new Model();
+            model.angle(pair.lessUp(), full(pair.length()));
+            model.angle(pair.greaterUp(), full(pair.length()));
+            for (int k = 2; k < 8; k++) {
+                int up = (pair.lessUp() * low / (int) full(pair.length()) + k) % low;
+                String text = text(pair) + " taken out of " + up + "/" + low;
+                x.angle(up, low);
+                model.angle(up, low);
+                DUE.is(text, x.take(k % 2, k), model.take(k % 2, k));
+                DUE.is(text + ", all ANGLES", x.count(0), model.count(0));
+            }
+        }
+    }
+
+    private static void putAndTaken(Model.Pair pair, long up, long low, int n) {
         MetAngles x = withEnds(pair);
-        String text = text(pair) + " put into " + up + " of LENGTH " + n;
-        x.angle(up, full(n));
+        String text = text(pair) + " put into " + up + "/" + low;
+        x.angle(up, low);
         DUE.is(text, x.put(1, 2), 3);
         DUE.is(text + ", its LENGTH", x.told(3, 3), pair.length() * n);
         DUE.is(text + " and taken", x.take(0, 3), 4);
@@ -107,7 +144,9 @@ public final class WholeTest {
                 model.angle(other.greaterUp(), full(other.length()));
                 x.angle(other.greaterUp(), full(other.length()));
                 DUE.is(text(one) + " holds " + text(other), x.holds(0, 1), model.holds(0, 1));
-                DUE.is(text(one) + " between " + text(other), x.between(0, 1, 7), model.between(0, 1, 7));
+                int n = 1 + (one.index() + other.index()) % 8;
+                DUE.is(text(one) + " between " + text(other), x.between(0, 1, 8), model.between(0, 1, 8));
+                DUE.is(text(one) + " between " + text(other) + " up to " + n, x.between(0, 1, n), model.between(0, 1, n));
             }
         }
     }
