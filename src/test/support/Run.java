@@ -28,11 +28,14 @@ record Run(String title, List<Step> steps) {
         Map.entry("LONG_LEAST", Long.MIN_VALUE), Map.entry("LONG_MOST", Long.MAX_VALUE));
 
     static List<Run> in(Path file) throws IOException {
+        return of(file.getFileName().toString(), Files.readAllLines(file));
+    }
+
+    static List<Run> of(String name, List<String> lines) {
         List<Run> runs = new ArrayList<>();
-        List<String> lines = Files.readAllLines(file);
         for (int i = 0; i < lines.size(); i++) {
             String line = lines.get(i).strip();
-            String place = file.getFileName() + ":" + (i + 1);
+            String place = name + ":" + (i + 1);
             if (line.startsWith("== ")) {
                 runs.add(new Run(line.substring(3), new ArrayList<>()));
             } else if (!line.isEmpty() && !line.startsWith("#")) {
